@@ -24,8 +24,8 @@ public final class OracleTest {
         List<String> told = new ArrayList<>();
         telling(r, x, m, told);
         for (int i = 0; i < CALLS; i++) {
-            int kind = r.nextInt(44);
-            if (kind >= 39) {
+            int kind = r.nextInt(43);
+            if (kind >= 38) {
                 typeAll(x, m, r.nextInt(2), r, told);
                 continue;
             }
@@ -106,7 +106,7 @@ public final class OracleTest {
                 return new int[] {day(r), k, bottle(r, m), k == 0 ? near(r, 0, 5) : k == 1 ? bottle(r, m) : near(r, 0, 0)};
             }
             case 9: return new int[] {near(r, 0, 1)};
-            case 10: case 32: return new int[] {near(r, 0, 3)};
+            case 10: return new int[] {near(r, 0, 3)};
             case 11: return new int[] {day(r), bottle(r, m), near(r, -1, 7)};
             case 12: case 13: return new int[] {day(r), bottle(r, m)};
             case 14: return new int[] {day(r), near(r, 0, 5)};
@@ -122,10 +122,10 @@ public final class OracleTest {
             case 29: return new int[] {r.nextInt(), day(r), r.nextInt(2) == 0 ? NONE : bottle(r, m)};
             case 30: return new int[] {near(r, 0, 3), near(r, 0, 2), r.nextInt(2) == 0 ? near(r, 0, 60) : near(r, 0, 8)};
             case 31: return new int[] {near(r, 0, 3)};
-            case 33: return new int[] {near(r, 0, 3), near(r, 0, 2), near(r, 0, 8), r.nextInt(2) == 0 ? r.nextInt(6) : r.nextInt()};
-            case 34: return new int[] {near(r, 0, 3), near(r, 0, 2), near(r, 0, 8)};
-            case 35: return new int[] {near(r, 0, 3), near(r, 0, 6), near(r, 0, 3), near(r, 0, 6), near(r, 0, 4)};
-            case 36: return new int[] {bottle(r, m), near(r, 0, 3)};
+            case 32: return new int[] {near(r, 0, 3), near(r, 0, 2), near(r, 0, 8), r.nextInt(2) == 0 ? r.nextInt(6) : r.nextInt()};
+            case 33: return new int[] {near(r, 0, 3), near(r, 0, 2), near(r, 0, 8)};
+            case 34: return new int[] {near(r, 0, 3), near(r, 0, 6), near(r, 0, 3), near(r, 0, 6), near(r, 0, 4)};
+            case 35: return new int[] {bottle(r, m), near(r, 0, 3)};
             default: return new int[] {near(r, 0, 8)};
         }
     }
@@ -176,11 +176,10 @@ public final class OracleTest {
             case 29: return x.market(a[0], a[1], a[2]);
             case 30: return x.sheet(a[0], a[1], a[2]);
             case 31: return x.lose(a[0]);
-            case 32: return x.read(a[0]);
-            case 33: return x.put(a[0], a[1], a[2], a[3]);
-            case 34: return x.get(a[0], a[1], a[2]);
-            case 35: return x.copy(a[0], a[1], a[2], a[3], a[4]);
-            case 36: return x.write(a[0], a[1]);
+            case 32: return x.put(a[0], a[1], a[2], a[3]);
+            case 33: return x.get(a[0], a[1], a[2]);
+            case 34: return x.copy(a[0], a[1], a[2], a[3], a[4]);
+            case 35: return x.write(a[0], a[1]);
             case 37: return x.digest() * 0;
             default: return x.count(a[0]);
         }
@@ -568,10 +567,10 @@ public final class OracleTest {
         }
 
         long call(int kind, int[] a) {
-            if (kind <= 10 || kind == 32) {
+            if (kind <= 10) {
                 return tell(kind, a);
             }
-            if (kind >= 30 && kind <= 36) {
+            if (kind >= 30 && kind <= 35) {
                 return sheetCall(kind, a);
             }
             if (kind >= 11 && kind <= 18 && !in(a[0], 0, 39)) {
@@ -678,14 +677,14 @@ public final class OracleTest {
         }
 
         long sheetCall(int kind, int[] a) {
-            if (kind == 35) {
+            if (kind == 34) {
                 return copy(a);
             }
-            int s = kind == 36 ? a[1] : a[0];
-            boolean bad = !in(s, 0, 3) || (kind == 30 || kind == 33 || kind == 34) && !in(a[1], 0, 2)
-                || kind == 30 && a[2] > 60 || kind == 36 && !is(a[0]);
+            int s = kind == 35 ? a[1] : a[0];
+            boolean bad = !in(s, 0, 3) || (kind == 30 || kind == 32 || kind == 33) && !in(a[1], 0, 2)
+                || kind == 30 && a[2] > 60 || kind == 35 && !is(a[0]);
             if (bad) {
-                return kind == 34 ? LEAST : BAD;
+                return kind == 33 ? LEAST : BAD;
             }
             if (kind == 30) {
                 if (a[2] < 0) {
@@ -695,12 +694,12 @@ public final class OracleTest {
                 form[s] = a[1];
                 return a[2];
             }
-            if (kind == 33 || kind == 34) {
+            if (kind == 32 || kind == 33) {
                 int f = itemFinding(s, a[1], a[2]);
                 if (f != 0) {
-                    return kind == 34 ? found(f) * 0 + LEAST : found(f);
+                    return kind == 33 ? found(f) * 0 + LEAST : found(f);
                 }
-                if (kind == 34) {
+                if (kind == 33) {
                     return sheet[s][a[2]];
                 }
                 sheet[s][a[2]] = narrow(a[1], a[3]);
