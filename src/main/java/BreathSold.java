@@ -371,7 +371,7 @@ public final class BreathSold {
             return Long.MIN_VALUE - BAD;
         }
         heatStates[0].begin(told.stock, 0, 0);
-        long above = wholeWays(0, day, c, bottle);
+        long above = wholeWays(heatStates, told, 0, day, c, bottle);
         long below = 1L << 4 * (day + 1);
         if (above == 0) {
             below = 1;
@@ -701,24 +701,24 @@ public final class BreathSold {
     }
 
     /** In how many of 16 ways a day, from this day to the last one, the bottle stays whole. */
-    private long wholeWays(int day, int last, int c, int bottle) {
-        if (!isWithin(day, heatStates.length) || !heatStates[day].isWhole(bottle)) {
+    private static long wholeWays(State[] states, Told told, int day, int last, int c, int bottle) {
+        if (!isWithin(day, states.length) || !states[day].isWhole(bottle)) {
             return 0;
         }
-        if (day > last || day + 1 >= heatStates.length) {
+        if (day > last || day + 1 >= states.length) {
             return 1;
         }
-        State next = heatStates[day + 1];
-        next.become(heatStates[day]);
+        State next = states[day + 1];
+        next.become(states[day]);
         next.passUntilHeat(told.acts, NONE);
         int ripe = next.ripeBottles(told.burst);
         // Where nothing would burst, a hot day and a cool one are the same.
         if (ripe == 0) {
-            return SIXTEENTHS * wholeWays(day + 1, last, c, bottle);
+            return SIXTEENTHS * wholeWays(states, told, day + 1, last, c, bottle);
         }
-        long ways = (SIXTEENTHS - c) * wholeWays(day + 1, last, c, bottle);
+        long ways = (SIXTEENTHS - c) * wholeWays(states, told, day + 1, last, c, bottle);
         next.burstAll(ripe);
-        return ways + c * wholeWays(day + 1, last, c, bottle);
+        return ways + c * wholeWays(states, told, day + 1, last, c, bottle);
     }
 
     private static int nextSeed(int seed) {
@@ -1067,7 +1067,7 @@ public final class BreathSold {
                 }
             }
             Arrays.fill(leastBehind, UNKNOWN);
-            int least = leastFrom(0, 0);
+            int least = leastFrom(this, 0, 0);
             spill = least < NEVER ? least : NONE;
         }
 
@@ -1088,28 +1088,29 @@ public final class BreathSold {
             return bits;
         }
 
-        private int leastFrom(int used, int i) {
-            if (i >= size) {
+        /** Letters are 8 at most, so it goes 8 deep at most. */
+        private static int leastFrom(Singer s, int used, int i) {
+            if (i >= s.size) {
                 return 0;
             }
-            if (leastBehind[used] != UNKNOWN) {
-                return leastBehind[used];
+            if (s.leastBehind[used] != UNKNOWN) {
+                return s.leastBehind[used];
             }
             int least = NEVER;
             for (int b = 0; b < BOTTLES; b++) {
-                if (isFree(used, i, b)) {
-                    least = Math.min(least, others[BOTTLES * i + b] + leastFrom(used | 1 << b, i + 1));
+                if (s.isFree(used, i, b)) {
+                    least = Math.min(least, s.others[BOTTLES * i + b] + leastFrom(s, used | 1 << b, i + 1));
                 }
             }
-            leastBehind[used] = least;
+            s.leastBehind[used] = least;
             return least;
         }
 
         /** The least bottle by which the least is still spilled. */
         private int leastNext(int used, int i) {
-            int least = leastFrom(used, i);
+            int least = leastFrom(this, used, i);
             for (int b = 0; b < BOTTLES; b++) {
-                if (isFree(used, i, b) && others[BOTTLES * i + b] + leastFrom(used | 1 << b, i + 1) == least) {
+                if (isFree(used, i, b) && others[BOTTLES * i + b] + leastFrom(this, used | 1 << b, i + 1) == least) {
                     return b;
                 }
             }
