@@ -6,7 +6,7 @@ import java.util.Random;
 /** Random runs of calls against a slow model that was written from the document by itself. */
 public final class OracleTest {
     private static final int NONE = -1, BAD = -2, NOT = -3, FULL = -4, LEAST = Integer.MIN_VALUE;
-    private static final int RUNS = 400, CALLS = 300;
+    private static final int RUNS = 500, CALLS = 300;
 
     public static void main(String[] args) {
         int wrong = 0;
@@ -79,8 +79,12 @@ public final class OracleTest {
     }
 
     private static int near(Random r, int low, int high) {
-        int odd = r.nextInt(40);
-        return odd == 0 ? low - 1 : odd == 1 ? high + 1 : low + r.nextInt(high - low + 1);
+        switch (r.nextInt(50)) {
+            case 0: return low - 1;
+            case 1: return high + 1;
+            case 2: return r.nextBoolean() ? Integer.MIN_VALUE : Integer.MAX_VALUE;
+            default: return low + r.nextInt(high - low + 1);
+        }
     }
 
     private static int day(Random r) {
