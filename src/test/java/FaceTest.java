@@ -151,7 +151,7 @@ public final class FaceTest {
             x.hot(3 * i);
             x.weighed(0, i, 10 * i);
         }
-        for (int i = 0; i < 100; i++) {
+        for (int i = 0; i < 50; i++) {
             x.sheet(i % 4, i % 3, 60);
             x.write(i % 8, i % 4);
             x.read(i % 4);

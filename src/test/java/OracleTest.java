@@ -6,7 +6,8 @@ import java.util.Random;
 /** Random runs of calls against a slow model that was written from the document by itself. */
 public final class OracleTest {
     private static final int NONE = -1, BAD = -2, NOT = -3, FULL = -4, LEAST = Integer.MIN_VALUE;
-    private static final int RUNS = 500, CALLS = 300;
+    /** An object is promised 512 calls; typing a text takes 48 at most, and the digest is one more. */
+    private static final int RUNS = 800, CALLS = 512 - 48 - 1;
 
     public static void main(String[] args) {
         int wrong = 0;
@@ -22,13 +23,14 @@ public final class OracleTest {
         BreathSold x = new BreathSold();
         Model m = new Model();
         List<String> told = new ArrayList<>();
-        telling(r, x, m, told);
-        for (int i = 0; i < CALLS; i++) {
+        int calls = telling(r, x, m, told);
+        while (calls < CALLS) {
             int kind = r.nextInt(43);
             if (kind >= 38) {
-                typeAll(x, m, r.nextInt(2), r, told);
+                calls += typeAll(x, m, r.nextInt(2), r, told);
                 continue;
             }
+            calls++;
             int[] a = arguments(kind, r, m);
             long got = call(x, kind, a);
             long want = m.call(kind, a);
@@ -45,9 +47,9 @@ public final class OracleTest {
         return true;
     }
 
-    private static void telling(Random r, BreathSold x, Model m, List<String> told) {
-        typeAll(x, m, 0, r, told);
-        typeAll(x, m, 1, r, told);
+    /** Answers how many calls it took. */
+    private static int telling(Random r, BreathSold x, Model m, List<String> told) {
+        int calls = typeAll(x, m, 0, r, told) + typeAll(x, m, 1, r, told);
         int acts = r.nextInt(12);
         for (int i = 0; i < acts; i++) {
             int[] a = arguments(8, r, m);
@@ -55,9 +57,10 @@ public final class OracleTest {
             call(x, 8, a);
             m.call(8, a);
         }
+        return calls + acts;
     }
 
-    private static void typeAll(BreathSold x, Model m, int text, Random r, List<String> told) {
+    private static int typeAll(BreathSold x, Model m, int text, Random r, List<String> told) {
         StringBuilder s = new StringBuilder();
         int n = r.nextInt(9);
         for (int i = 0; i < n; i++) {
@@ -76,6 +79,7 @@ public final class OracleTest {
             m.call(0, new int[] {text, s.charAt(i)});
         }
         told.add("text " + text + " " + s);
+        return 1 + s.length();
     }
 
     private static int near(Random r, int low, int high) {
