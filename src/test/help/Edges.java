@@ -28,6 +28,7 @@ abstract class Edges {
 
     /** Runs the tests of promises first to last, and wants at least one for each. */
     static void runAll(Class<?> tests, int first, int last) throws IllegalAccessException {
+        Watch.begin();
         Method[] all = tests.getDeclaredMethods();
         Arrays.sort(all, Comparator.comparing(Method::getName));
         int[] ran = new int[100];

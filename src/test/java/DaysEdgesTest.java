@@ -302,6 +302,18 @@ public final class DaysEdgesTest extends Edges {
         due("on n", 1, x.whole(0, 3));
     }
 
+    static void promise15AnotherShelfTyped() {
+        BreathSold x = with("a609s");
+        x.hot(0);
+        due("on s", 0, x.whole(0, 0));
+        x.undo(0);
+        x.type(0, 'n');
+        due("on n", 1, x.whole(0, 0));
+        x.undo(0);
+        x.type(0, 's');
+        due("on s again", 0, x.whole(0, 0));
+    }
+
     static void promise15ALeakedOutOneIsWhole() {
         due(1, with("a010n").whole(39, 0));
     }
@@ -563,6 +575,13 @@ public final class DaysEdgesTest extends Edges {
         BreathSold x = with("a010n;a020n;b999n");
         due("1 is left in another", 0, x.lost(0));
         due("none", 1, x.lost(1));
+    }
+
+    static void promise20WhoeverHasIt() {
+        BreathSold x = with("a109n;b109n");
+        x.act(0, SALE, 0, 5);
+        x.act(0, SALE, 1, 1);
+        due(0, x.lost(0));
     }
 
     static void promise20HeardAndSpilled() {

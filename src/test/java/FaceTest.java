@@ -25,6 +25,7 @@ public final class FaceTest {
     private static int wrong = 0;
 
     public static void main(String[] args) throws Exception {
+        Watch.begin();
         face();
         insides();
         source();

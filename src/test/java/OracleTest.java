@@ -10,6 +10,7 @@ public final class OracleTest {
     private static final int RUNS = 800, CALLS = 512 - 48 - 1;
 
     public static void main(String[] args) {
+        Watch.begin();
         int wrong = 0;
         for (int run = 0; run < RUNS && wrong < 5; run++) {
             wrong += oneRun(run) ? 0 : 1;

@@ -9,6 +9,7 @@ public final class PromisesTest {
     private static int wrong = 0;
 
     public static void main(String[] args) {
+        Watch.begin();
         newObject();
         type();
         wipe();

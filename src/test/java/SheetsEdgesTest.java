@@ -662,6 +662,70 @@ public final class SheetsEdgesTest extends Edges {
         due(mix(h, 1, 0, NONE, x.market(7, 20, NONE)), x.digest());
     }
 
+    /** Each answer of it by the call that gives it, where the days and numbers beside those told answer otherwise. */
+    private static long digestByCalls(BreathSold x) {
+        long h = 17;
+        for (int what = 0; what <= 7; what++) {
+            h = mix(h, x.count(what));
+        }
+        h = mix(h, x.fault(0), x.fault(1));
+        for (int b = 0; b < x.count(0); b++) {
+            h = mix(h, x.bottle(b, 0), x.bottle(b, 1), x.bottle(b, 2), x.bottle(b, 3));
+            h = mix(h, x.holds(5, b, NONE), x.holds(39, b, NONE), x.who(9, b), x.whole(39, b));
+            h = mix(h, x.heat(5, b, 6, 0), x.heat(5, b, 6, 1), x.market(7, 20, b));
+        }
+        for (int i = 0; i < x.count(1); i++) {
+            h = mix(h, x.note(i));
+        }
+        for (int v = 0; v < 8; v++) {
+            h = mix(h, x.heard(39, v), x.spilled(39, v), x.most(5, v));
+        }
+        for (int o = 0; o < 6; o++) {
+            h = mix(h, x.has(9, o));
+        }
+        for (int day : new int[] {0, 5, 39}) {
+            h = mix(h, x.leaked(day), x.lost(day), x.sing(day, NONE), x.sing(day, 0));
+            h = mix(h, x.corks(day, NONE), x.corks(day, 0), x.weigh(day));
+        }
+        for (int a = 0; a < x.count(4); a++) {
+            h = mix(h, x.works(a));
+        }
+        return mix(h, x.hid(), x.swapped(0), x.swapped(1), x.market(7, 20, NONE));
+    }
+
+    static void promise39EachDayOfIt() {
+        BreathSold x = with("a990s;b850n;a709n;c604n;d059n;h999s;a200n", "abd");
+        x.act(5, JOIN, 2, 3);
+        x.act(6, JOIN, 3, 6);
+        x.act(9, SALE, 0, 2);
+        x.act(10, SALE, 0, 3);
+        x.act(39, BREAK, 6, 0);
+        x.act(38, JOIN, 1, 4);
+        x.hot(39);
+        x.hot(4);
+        x.burst(65);
+        due(digestByCalls(x), x.digest());
+        x.weighed(5, 1, x.holds(5, 1, NONE));
+        due("with something weighed", digestByCalls(x), x.digest());
+    }
+
+    static void promise39CorksInIt() {
+        BreathSold x = with("c999s;a050n;b050n;d100n", "ab");
+        x.act(7, BREAK, 0, 0);
+        x.act(1, BREAK, 3, 0);
+        x.weighed(0, 3, 8);
+        due("two corks by day 5", 2, x.corks(5, NONE));
+        due(digestByCalls(x), x.digest());
+    }
+
+    static void promise39AFaultInIt() {
+        BreathSold x = full();
+        x.undo(0);
+        x.undo(1);
+        x.type(1, 'z');
+        due(digestByCalls(x), x.digest());
+    }
+
     static void promise39FindingsAndSheetsAreNotInIt() {
         BreathSold x = busy();
         long before = x.digest();
@@ -675,6 +739,7 @@ public final class SheetsEdgesTest extends Edges {
         BreathSold x = full();
         due("twice alike", x.digest(), x.digest());
         due("another like one", x.digest(), full().digest());
+        due("by its calls", digestByCalls(x), x.digest());
     }
 
     static void promise39AskingChangesNothing() {

@@ -141,6 +141,14 @@ public final class SongsEdgesTest extends Edges {
         dueSong(x, 0, 0, 3, 2);
     }
 
+    static void promise22WhoeverHasThem() {
+        BreathSold x = with("a109n;b109n", "ab");
+        x.act(0, SALE, 0, 5);
+        x.act(0, SALE, 1, 1);
+        dueSong(x, 0, 0, 0, 1);
+        dueCorks(x, 0, 0);
+    }
+
     static void promise22BehindDay0AndDay39() {
         BreathSold x = with("a109n;b109n", "a");
         x.act(0, JOIN, 1, 0);
@@ -255,6 +263,17 @@ public final class SongsEdgesTest extends Edges {
         x.hot(0);
         due("open it holds 54", 0, x.corks(0, NONE));
         // Corked it holds 61 and bursts, open it leaks out.
+        dueCorks(x, 39, NONE);
+    }
+
+    static void promise23ACorkedOneStillLeaksOfAHundred() {
+        BreathSold x = with("a500s;a509n", "a");
+        x.act(0, JOIN, 1, 0);
+        x.hot(0);
+        x.burst(100);
+        // Of 100 behind its leak there are 99, and it does not burst.
+        dueCorks(x, 39, 1, 0);
+        x.burst(99);
         dueCorks(x, 39, NONE);
     }
 

@@ -15,13 +15,16 @@ public final class WeighedEdgesTest extends Edges {
     static void promise25LeastAndGreatestDay() {
         BreathSold x = with("a109n");
         x.act(39, BREAK, 0, 0);
+        x.act(0, SALE, 0, 1);
         due(1, x.weighed(0, 0, 10));
-        due("so without the break", 1, x.hid());
+        due("without either", 3, x.hid());
         due(2, x.weighed(39, 0, 10));
-        due("so without the break", 1, x.hid());
+        due("without the break", 1, x.hid());
         x.forget();
-        x.weighed(39, 0, 0);
-        due("not so without it", 0, x.hid());
+        due(1, x.weighed(39, 0, 0));
+        due("without the sale", 2, x.hid());
+        due(2, x.weighed(38, 0, 0));
+        due("without neither", 0, x.hid());
     }
 
     static void promise25NoSuchBottle() {
@@ -156,6 +159,8 @@ public final class WeighedEdgesTest extends Edges {
         due(0, x.hid());
         typeAll(x, 0, ";b010n");
         due("now it is there, and empty", 1, x.hid());
+        x.weighed(0, 7, 0);
+        due("nor of one far behind", 0, x.hid());
     }
 
     static void promise27AnActOfABottleThatThereIsNot() {
@@ -249,6 +254,9 @@ public final class WeighedEdgesTest extends Edges {
         BreathSold x = with("a109n;b109n");
         x.weighed(0, 2, 0);
         dueSwapped(x, 0, NONE);
+        x.forget();
+        x.weighed(0, 7, 0);
+        dueSwapped(x, 0, NONE);
     }
 
     static void promise28WithoutASwapItIsNotAsked() {
@@ -276,6 +284,15 @@ public final class WeighedEdgesTest extends Edges {
         x.weighed(0, 0, 60);
         x.weighed(0, 1, 0);
         dueSwapped(x, 1, 1);
+    }
+
+    static void promise28ItsShelfGoesBackBehindEachPair() {
+        BreathSold x = with("a609s;b609n;c609n");
+        x.hot(0);
+        x.weighed(0, 0, 60);
+        x.weighed(0, 1, 60);
+        x.weighed(0, 2, 0);
+        dueSwapped(x, 1, 2);
     }
 
     static void promise28ItsVoiceComesAlong() {
@@ -347,6 +364,15 @@ public final class WeighedEdgesTest extends Edges {
         due(2, x.weigh(0));
     }
 
+    static void promise29TheFirstBottleTellsMost() {
+        BreathSold x = with("a109n;b209n;c309n");
+        x.act(0, JOIN, 1, 0);
+        x.act(0, JOIN, 2, 0);
+        x.act(0, SALE, 0, 1);
+        // By 0 each act by itself, 40, 30 or 60; by 1 and by 2 one and two.
+        due(0, x.weigh(0));
+    }
+
     static void promise29OfThoseActsThatHidAlone() {
         BreathSold x = with("a109n;b109n;c109n");
         x.act(0, BREAK, 1, 0);
@@ -357,6 +383,35 @@ public final class WeighedEdgesTest extends Edges {
         due("the break of 1 is out", 2, x.weigh(0));
         x.weighed(0, 1, 5);
         due("none is left", 0, x.weigh(0));
+    }
+
+    static void promise29ActsBehindOneThatDidNotHide() {
+        BreathSold x = with("a109n;b109n;c109n");
+        x.act(0, BREAK, 2, 0);
+        x.act(0, SALE, 0, 1);
+        x.act(0, BREAK, 1, 0);
+        x.weighed(0, 2, 0);
+        // Without the break of 2 it would hold 10: the sale and the break of 1 are left.
+        due(1, x.weigh(0));
+    }
+
+    static void promise29AsTheBottlesStandAtFirst() {
+        BreathSold x = with("a990s;b019n");
+        x.hot(0);
+        x.act(0, SALE, 0, 1);
+        x.act(0, CORKED, 0, 0);
+        x.burst(99);
+        // Corked, 0 holds 99 and bursts; without that 89 are in it.
+        due(0, x.weigh(0));
+        BreathSold y = with("b019n;a990s");
+        y.act(0, SALE, 0, 1);
+        y.act(0, CORKED, 1, 0);
+        due(1, y.weigh(0));
+        BreathSold z = with("b019n;a999s;c990n");
+        z.act(0, SALE, 0, 1);
+        z.act(0, CORKED, 1, 0);
+        z.act(0, CORKED, 0, 0);
+        due("corks of 9 make no difference", 0, z.weigh(0));
     }
 
     static void promise29BehindThatDay() {
@@ -497,6 +552,23 @@ public final class WeighedEdgesTest extends Edges {
 
     static void promise30TheLastOfEight() {
         BreathSold x = with("a019n;a019n;a019n;a019n;a019n;a019n;a019n;a999s");
+        dueHeat(x, 8, 7, 0, 1, 2);
+        dueHeat(x, 8, 7, 9, 1, 1024);
+    }
+
+    static void promise30OfEachVoiceByItself() {
+        BreathSold x = with("a999s;b999n");
+        x.act(0, JOIN, 1, 0);
+        x.burst(198);
+        // 99 of each of two voices do not leak.
+        dueHeat(x, 8, 0, 0, 1, 2);
+        dueHeat(x, 8, 0, 9, 1, 1024);
+    }
+
+    static void promise30TheVoiceOfTheLastOfEight() {
+        BreathSold x = with("b019n;b019n;b019n;b019n;b019n;b019n;a999n;h999s");
+        x.act(0, JOIN, 6, 7);
+        x.burst(198);
         dueHeat(x, 8, 7, 0, 1, 2);
     }
 
