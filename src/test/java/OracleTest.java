@@ -8,12 +8,17 @@ public final class OracleTest {
     private static final int NONE = -1, BAD = -2, NOT = -3, FULL = -4, LEAST = Integer.MIN_VALUE;
     /** An object is promised 512 calls; typing a text takes 48 at most, and the digest is one more. */
     private static final int RUNS = 800, CALLS = 512 - 48 - 1;
+    /** Random texts seldom sing, so there are runs of their own for songs. */
+    private static final int SONG_RUNS = 600, SONG_DAYS = 12;
 
     public static void main(String[] args) {
         Watch.begin();
         int wrong = 0;
         for (int run = 0; run < RUNS && wrong < 5; run++) {
             wrong += oneRun(run) ? 0 : 1;
+        }
+        for (int run = 0; run < SONG_RUNS && wrong < 5; run++) {
+            wrong += songRun(run) ? 0 : 1;
         }
         System.out.println(wrong == 0 ? "all answers are as the model's" : wrong + " runs are not as the model's");
         System.exit(wrong == 0 ? 0 : 1);
@@ -48,6 +53,57 @@ public final class OracleTest {
         return true;
     }
 
+    /** A song of the bottles' own voices, with weak corks and joins: all rows of sing() and corks(), and the digest. */
+    private static boolean songRun(int run) {
+        Random r = new Random(run);
+        BreathSold x = new BreathSold();
+        Model m = new Model();
+        List<String> told = new ArrayList<>();
+        int n = 2 + r.nextInt(7);
+        int voices = 1 + r.nextInt(8);
+        StringBuilder bottles = new StringBuilder();
+        StringBuilder song = new StringBuilder();
+        int letters = r.nextInt(n + 1);
+        for (int b = 0; b < n; b++) {
+            char letter = (char) ('a' + r.nextInt(voices));
+            bottles.append(b > 0 ? ";" : "").append(letter).append(r.nextInt(10)).append(1 + r.nextInt(9));
+            bottles.append(r.nextInt(2) == 0 ? 0 : r.nextInt(10)).append(r.nextInt(2) == 0 ? 'n' : 's');
+            if (b < letters) {
+                song.insert(r.nextInt(b + 1), letter);
+            }
+        }
+        tellText(x, m, 0, bottles.toString(), told);
+        tellText(x, m, 1, song.toString(), told);
+        for (int i = r.nextInt(5); i > 0; i--) {
+            int kind = r.nextInt(4) > 0 ? 1 : r.nextInt(4);
+            told(x, m, 8, told, r.nextInt(6), kind, r.nextInt(n), kind < 2 ? r.nextInt(kind == 0 ? 6 : n) : 0);
+        }
+        for (int i = r.nextInt(3); i > 0; i--) {
+            told(x, m, 7, told, r.nextInt(20));
+        }
+        boolean fits = true;
+        for (int i = 0; i < SONG_DAYS && fits; i++) {
+            int day = r.nextInt(40);
+            for (int at = NONE; at < 8; at++) {
+                fits &= told(x, m, 20, told, day, at) && told(x, m, 22, told, day, Math.max(0, at));
+                fits &= at >= 3 || told(x, m, 21, told, day, at);
+            }
+        }
+        fits &= run % 10 != 0 || x.digest() == m.digest();
+        if (!fits) {
+            System.out.println("song run " + run + " after " + told);
+        }
+        return fits;
+    }
+
+    /** Whether the object and the model answer the call alike. */
+    private static boolean told(BreathSold x, Model m, int kind, List<String> told, int... a) {
+        long got = call(x, kind, a);
+        long want = m.call(kind, a);
+        told.add(kind + Arrays.toString(a) + "=" + want + (got == want ? "" : ", but got " + got));
+        return got == want;
+    }
+
     /** Answers how many calls it took. */
     private static int telling(Random r, BreathSold x, Model m, List<String> told) {
         int calls = typeAll(x, m, 0, r, told) + typeAll(x, m, 1, r, told);
@@ -73,6 +129,10 @@ public final class OracleTest {
             s.append(i > 0 ? ";" : "").append(letter).append(r.nextInt(10)).append(1 + r.nextInt(9));
             s.append(r.nextInt(3) == 0 ? 0 : r.nextInt(10)).append(r.nextInt(3) == 0 ? 'n' : 's');
         }
+        return tellText(x, m, text, s.toString(), told);
+    }
+
+    private static int tellText(BreathSold x, Model m, int text, String s, List<String> told) {
         x.wipe(text);
         m.call(1, new int[] {text});
         for (int i = 0; i < s.length(); i++) {
